@@ -48,8 +48,9 @@ public final class ClosureClasses {
         if (reader.wrong >= 0) {
             return -1 - reader.wrong;
         }
-        Writer writer = new Writer();
-        program = writer.write(reader);
+        program = new Program(reader.definitionUnits, reader.mainUnit());
+        Writer writer = new Writer(program);
+        writer.writeUnits(reader.units);
         machine.forget();
         return program.units;
     }
@@ -165,6 +166,7 @@ public final class ClosureClasses {
 
         private static final String SIGNS = "(){}\\.=;:,#?!+-*/%<_@";
         private static final int LONGEST_NAME = 3;
+        private static final long GREATEST_NUMBER = 2147483647L;
         private static final int LET_WORD = ('l' << 16) + ('e' << 8) + 't';
         private static final int IN_WORD = ('i' << 8) + 'n';
         private static final int OF_WORD = ('o' << 8) + 'f';
@@ -252,12 +254,12 @@ public final class ClosureClasses {
             int start = behind;
             long number = 0;
             while (behind < length && isDigit(text.at(behind))) {
-                if (number <= Integer.MAX_VALUE) {
+                if (number <= GREATEST_NUMBER) {
                     number = number * 10 + text.at(behind) - '0';
                 }
                 behind++;
             }
-            keep(number <= Integer.MAX_VALUE ? NUMBER : UNKNOWN, start, (int) number);
+            keep(number <= GREATEST_NUMBER ? NUMBER : UNKNOWN, start, (int) number);
         }
 
         private void keep(int pieceKind, int piecePlace, int pieceValue) {
@@ -883,21 +885,23 @@ public final class ClosureClasses {
         }
     }
 
-    /** Writes what was read as a program's bytes. */
+    /** Writes units as the bytes of a program. */
     private static final class Writer {
         private static final int DEEPEST = 40;
 
-        private Program program;
+        private final Program program;
 
-        Program write(Reader reader) {
-            program = new Program(reader.definitionUnits, reader.mainUnit());
-            for (int i = 0; i < reader.units.size(); i++) {
-                Unit unit = reader.units.get(i);
+        Writer(Program program) {
+            this.program = program;
+        }
+
+        void writeUnits(ArrayList<Unit> units) {
+            for (int i = 0; i < units.size(); i++) {
+                Unit unit = units.get(i);
                 program.addUnit(unit);
                 writeHead(unit);
                 writeTerm(unit.term, 1);
             }
-            return program;
         }
 
         private void writeHead(Unit unit) {
@@ -1209,11 +1213,11 @@ public final class ClosureClasses {
                 frames[i] = new Frame();
             }
             now = new Frame();
+            program = new Program(new Row(1), -1);
         }
 
         void forget() {
             hasRun = false;
-            program = null;
         }
 
         void start(Program code, int mostSteps) {

@@ -31,8 +31,8 @@ public final class WrongTextTest {
         right("m = 2147483647;", 1);
         right("m = 000000000000000000002147483647;", 1);
         right("m = -5 3;", 1);
-        right("lets = 1;".replace("lets", "le"), 1);
-        right("a1b;".replace("a1b", "a=1") + "b=+1a;", 2);
+        right("le = 1; ofa = 1; i = 1;", 3);
+        right("a=1;b=+1a;", 2);
         wrong("^");
         wrong("   ^");
         wrong("^abcd = 1;");
