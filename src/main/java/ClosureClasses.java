@@ -1241,6 +1241,7 @@ public final class ClosureClasses {
             giveValueOf(wanted);
         }
 
+        /** With 20000 steps and at most 40 lets ahead of a term, turns stay far below their bound. */
         void go() {
             for (int turn = 0; turn < MOST_TURNS && mode != ENDED; turn++) {
                 if (mode == DO_TERM) {

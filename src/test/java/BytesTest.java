@@ -73,6 +73,14 @@ public final class BytesTest {
         dueUnits("f x = @ x { 1 x : (x \\y. x); };",
             "0 0 1 16 11 0 0 1 0 1 1 0 8 12 1 11 0 1 2 0 1",
             "1 1 0 1 1 11 1 0");
+        // behind 39 definitions the names bound around are found as ever
+        StringBuilder many = new StringBuilder();
+        for (int i = 0; i < 39; i++) {
+            many.append((char) ('a' + i % 26)).append((char) ('a' + i / 26)).append("=1;");
+        }
+        ClosureClasses x = Checks.program(many + "f a = \\b. \\c. \\d. a;");
+        Checks.due("the last but one", Checks.bytesOf(x, 41), "1 1 1 0 1 13 0 42");
+        Checks.due("the last", Checks.bytesOf(x, 42), "1 1 1 0 1 11 1 0");
         // within the second unit the third tells b, then the second itself tells a
         dueUnits("f a b = (1 #1(+ b 1, a));",
             "0 0 2 12 1 10 0 0 0 1 2 0 1",

@@ -14,6 +14,7 @@ public final class RunTest {
         limits();
         objects();
         depth();
+        deepTexts();
         eachRunBeginsAnew();
         Checks.finish();
     }
@@ -105,6 +106,9 @@ public final class RunTest {
         Checks.dueRun("f a = a; m = (f 1 2);", 9, "-2: 0 2 0 0 2 0");
         Checks.dueRun("f a = a; m = (f 1 2);", 1, "-5: 0 1 0 0 2 0");
         Checks.dueRun("f a = \\b c. b; m = (f 1 2);", 9, "1: 1 2 2 0 2 0");
+        // a function that got fewer arguments still has the fields of the one that it was
+        Checks.dueRun("f a = \\b c. - a - b c; m = ((f 9 2) 3);", 9, "0: 10 5 2 0 3 0");
+        Checks.dueRun("f a = \\b c d. - a - b - c d; m = (((f 9 2) 3) 4);", 9, "0: 6 7 3 0 4 0");
         Checks.dueRun("k a b = \\c. + a + b c; m = ((k 1) 2 3);", 9, "0: 6 5 2 0 3 0");
         // the first function's own term is one deeper, the last one's is not
         Checks.dueRun("f a = ! + 1 1 \\b. b; m = (f 1 2);", 9, "0: 2 4 1 0 4 0");
@@ -170,6 +174,16 @@ public final class RunTest {
         // a choice's and a let's last term, and the second of !, are as deep as the whole
         Checks.dueRun("f n = @ = n 0 { 1 : 7; _ : let k = - n 1 in ! 1 (f k); }; m = (f 500);", 20000,
             "0: 7 2503 500 500 5 0");
+    }
+
+    /** Terms that are nested 40 deep, by each part that may be a term. */
+    private static void deepTexts() {
+        Checks.dueRun("m = " + Checks.times("+ 1 ", 39) + "1;", 99, "0: 40 39 0 0 40 0");
+        Checks.dueRun("m = " + Checks.times("+ ", 39) + "1" + Checks.times(" 1", 39) + ";", 99, "0: 40 39 0 0 40 0");
+        Checks.dueRun("m = " + Checks.times("let x = 1 in ", 39) + "x;", 99, "0: 1 0 0 0 1 0");
+        Checks.dueRun("m = " + Checks.times("@ ", 39) + "#1" + Checks.times("{1:#1;}", 39) + ";", 99, "2: 1 39 0 0 40 0");
+        Checks.dueRun("m = " + Checks.times("@#1{1:", 39) + "1" + Checks.times(";}", 39) + ";", 99, "0: 1 39 0 0 2 0");
+        Checks.dueRun("m = " + Checks.times("(", 39) + "f" + Checks.times(" 1)", 39) + "; f x = f;", 99, "1: 1 39 0 0 40 0");
     }
 
     private static void dueDepth(String text, int answer, int deepest) {

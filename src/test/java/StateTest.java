@@ -13,6 +13,7 @@ public final class StateTest {
     private static void newObject() {
         ClosureClasses x = new ClosureClasses();
         dueNothing("new", x);
+        Checks.due("the limit is asked first", x.run(-1), ClosureClasses.BAD);
         Checks.due("read(1) of an empty tape", x.read(1), ClosureClasses.BAD);
         Checks.due("read(0) of an empty tape", x.read(0), -1);
     }

@@ -202,6 +202,12 @@ public final class WrongTextTest {
         String parts = Checks.times("#1(", 39);
         right("m = " + parts + "#1" + Checks.times(")", 39) + ";", 40);
         wrong("m = " + parts + "#1(^1)" + Checks.times(")", 39) + ";");
+        String later = Checks.times("(1 1 ", 39);
+        right("m = " + later + "1" + Checks.times(")", 39) + ";", 39);
+        wrong("m = " + later + "(^1 1)" + Checks.times(")", 39) + ";");
+        String laterParts = Checks.times("#1(1,", 39);
+        right("m = " + laterParts + "1" + Checks.times(")", 39) + ";", 39);
+        wrong("m = " + laterParts + "#1(^1)" + Checks.times(")", 39) + ";");
         String heads = Checks.times("@ ", 39);
         right("m = " + heads + "1" + Checks.times("{_:1;}", 39) + ";", 1);
         wrong("m = " + heads + "@ ^1" + Checks.times("{_:1;}", 40) + ";");
