@@ -11,14 +11,7 @@ public final class BytesTest {
     }
 
     private static void dueUnits(String text, String... units) {
-        ClosureClasses x = new ClosureClasses();
-        Checks.due("units of " + text, Checks.readText(x, text), units.length);
-        for (int u = 0; u < units.length; u++) {
-            String what = "unit " + u + " of " + text;
-            Checks.due("size of " + what, x.size(u), units[u].split(" ").length);
-            Checks.due(what, Checks.bytesOf(x, u), units[u]);
-        }
-        Checks.due("one unit more of " + text, x.size(units.length), ClosureClasses.BAD);
+        Checks.dueUnits(text, units);
     }
 
     private static void leaves() {

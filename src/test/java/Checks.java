@@ -2,23 +2,25 @@
 final class Checks {
     private static int wrong = 0;
     private static int made = 0;
+    private static String words = "";
 
     private Checks() {
     }
 
+    /** The words of the document that the checks from here on are for; told with each that fails. */
+    static void sentence(String ofDocument) {
+        words = "[" + ofDocument + "] ";
+    }
+
     static void due(String what, long got, long want) {
-        made++;
-        if (got != want) {
-            wrong++;
-            System.out.println(what + ": answered " + got + ", due is " + want);
-        }
+        due(what, Long.toString(got), Long.toString(want));
     }
 
     static void due(String what, String got, String want) {
         made++;
         if (!got.equals(want)) {
             wrong++;
-            System.out.println(what + ": answered " + got + ", due is " + want);
+            System.out.println(words + what + ": answered " + got + ", due is " + want);
         }
     }
 
@@ -54,9 +56,33 @@ final class Checks {
         return x;
     }
 
+    /** The text without its ^ is WRONG where that stands. */
+    static void wrong(String marked) {
+        int place = marked.indexOf('^');
+        String text = marked.substring(0, place) + marked.substring(place + 1);
+        due("read of " + text, readText(new ClosureClasses(), text), -1 - place);
+    }
+
+    static void right(String text, int units) {
+        due("read of " + text, readText(new ClosureClasses(), text), units);
+    }
+
+    /** The text has these units, each with its bytes joined by blanks, and no more. */
+    static void dueUnits(String text, String... units) {
+        ClosureClasses x = new ClosureClasses();
+        due("units of " + text, readText(x, text), units.length);
+        for (int u = 0; u < units.length; u++) {
+            String what = "unit " + u + " of " + text;
+            due("size of " + what, x.size(u), units[u].split(" ").length);
+            due(what, bytesOf(x, u), units[u]);
+        }
+        due("one unit more of " + text, x.size(units.length), ClosureClasses.BAD);
+    }
+
     static String bytesOf(ClosureClasses x, int unit) {
         StringBuilder bytes = new StringBuilder();
-        for (int i = 0; i < x.size(unit); i++) {
+        int size = x.size(unit);
+        for (int i = 0; i < size; i++) {
             bytes.append(i == 0 ? "" : " ").append(x.byteAt(unit, i));
         }
         return bytes.toString();

@@ -36,11 +36,12 @@ public final class RandomTest {
         int units = Checks.readText(x, text);
         List<String> due = Oracle.unitsOf(definitions);
         Checks.due("units of " + text, units, due.size());
-        StringBuilder bytes = new StringBuilder();
-        for (int u = 0; u < units; u++) {
-            bytes.append(u == 0 ? "" : "\n").append(Checks.bytesOf(x, u));
+        for (int u = 0; u < units && u < due.size(); u++) {
+            // no object is used for more calls than the document promises
+            ClosureClasses y = new ClosureClasses();
+            Checks.readText(y, text);
+            Checks.due("unit " + u + " of " + text, Checks.bytesOf(y, u), due.get(u));
         }
-        Checks.due("bytes of " + text, bytes.toString(), String.join("\n", due));
         Oracle oracle = new Oracle(definitions);
         for (int i = 0; i < 3; i++) {
             int limit = random.nextInt(random.nextBoolean() ? 60 : 20001);

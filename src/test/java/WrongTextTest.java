@@ -13,15 +13,12 @@ public final class WrongTextTest {
         Checks.finish();
     }
 
-    /** The text without its ^ is WRONG where that stands. */
     private static void wrong(String marked) {
-        int place = marked.indexOf('^');
-        String text = marked.substring(0, place) + marked.substring(place + 1);
-        Checks.due("read of " + text, Checks.readText(new ClosureClasses(), text), -1 - place);
+        Checks.wrong(marked);
     }
 
     private static void right(String text, int units) {
-        Checks.due("read of " + text, Checks.readText(new ClosureClasses(), text), units);
+        Checks.right(text, units);
     }
 
     private static void pieces() {
