@@ -32,6 +32,7 @@ public final class EdgesOfRunsTest {
         ownFaults();
         faultsEndTheRun();
         leftOver();
+        localsStay();
         Checks.finish();
     }
 
@@ -121,6 +122,16 @@ public final class EdgesOfRunsTest {
         for (int i = 0; i < 3; i++) {
             Checks.due("run", x.run(9), 0);
             Checks.due("told of each run", Checks.toldAll(x), "10 1 1 1 3 0");
+        }
+        // the first of 40 and the last
+        StringBuilder forty = new StringBuilder("d = 5; m = - + d d e;");
+        for (int i = 0; i < 37; i++) {
+            forty.append((char) ('a' + i % 26)).append((char) ('a' + i / 26)).append("=1;");
+        }
+        ClosureClasses y = Checks.program(forty + "e = + 3 4;");
+        for (int i = 0; i < 3; i++) {
+            Checks.due("run", y.run(9), 0);
+            Checks.due("told of each run", Checks.toldAll(y), "3 3 2 2 4 0");
         }
     }
 
@@ -603,5 +614,19 @@ public final class EdgesOfRunsTest {
         Checks.dueRun(n + "(n 1 2);", 99, "1: 1 2 2 0 2 0");
         Checks.dueRun(n + "((n 1 2) 3 4);", 99, "0: 826 10 3 0 5 0");
         Checks.dueRun(n + "(n 1 2 3 4 5);", 99, "-2: 0 10 2 0 6 0");
+        // the same with other objects ahead of the function whose FIELDS are wanted
+        Checks.dueRun(n + "let x = ? 1 in let y = \\z. z in ((n 6 2) 3 4);", 99, "0: 5826 10 5 0 5 0");
+        Checks.dueRun("w a b = - * 10 a b; m = let x = ? 1 in let p = (w 4) in - (p 1) (p 2);", 99, "0: 1 8 3 1 5 0");
+    }
+
+    private static void localsStay() {
+        Checks.sentence("14, 16: the LOCAL is there, the TERM done in place of this");
+        String i = "i x = x; t a b c = b; m = ";
+        Checks.dueRun(i + "@ (i #1(5)) { 1 a : a; };", 99, "0: 5 2 2 1 3 0");
+        Checks.dueRun(i + "@ (t 7 #1(5, 6) 8) { 1 a b : - a b; };", 99, "0: -1 3 2 1 3 0");
+        Checks.dueRun(i + "let p = 3 in @ (t p #1(5, 6) p) { 1 a b : let q = + a p in @ (t 1 #2(q) 2) { 2 c : - c b; }; };", 99,
+            "0: 2 6 5 3 4 0");
+        Checks.dueRun(i + "let p = (t 1 2 3) in + let q = + p 1 in * q p let r = 5 in - r p;", 99, "0: 9 5 2 2 7 0");
+        Checks.dueRun(i + "(let p = (i 4) in ! p \\x. - p x let r = 1 in r);", 99, "0: 3 4 3 2 5 0");
     }
 }
