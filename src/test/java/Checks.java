@@ -1,5 +1,7 @@
 /** What all tests of the project use: texts on the tape, and answers that are due. */
 final class Checks {
+    private static final int MOST_SHOWN = 100;
+
     private static int wrong = 0;
     private static int made = 0;
     private static String words = "";
@@ -20,7 +22,9 @@ final class Checks {
         made++;
         if (!got.equals(want)) {
             wrong++;
-            System.out.println(words + what + ": answered " + got + ", due is " + want);
+            if (wrong <= MOST_SHOWN) {
+                System.out.println(words + what + ": answered " + got + ", due is " + want);
+            }
         }
     }
 
